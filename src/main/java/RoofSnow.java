@@ -691,7 +691,7 @@ public final class RoofSnow {
 
         boolean isOf(int asked) {
             int at = kind;
-            for (int step = 0; step < KINDS && isKind(at); step++) {
+            for (int step = 0; step < KINDS && at >= 0 && at < KINDS; step++) {
                 if (at == asked) {
                     return true;
                 }
@@ -900,9 +900,10 @@ public final class RoofSnow {
         private void letMelt() {
             for (int i = 0; i < many; i++) {
                 Roof r = roofs[i];
-                int melted = melts(r);
+                // laws are worked out only where something lies: what is thought runs through many bare hours
+                int melted = r.snow > 0 ? melts(r) : 0;
                 r.snow -= melted;
-                if (owns(r)) {
+                if (melted > 0 && owns(r)) {
                     lost += r.takeWater(melted);
                 } else {
                     streetWater += melted;
@@ -1016,8 +1017,9 @@ public final class RoofSnow {
         }
 
         private boolean readKey() {
-            for (key = 0; key < KEYS; key++) {
-                if (isWord(keyWord(key))) {
+            for (int k = 0; k < KEYS; k++) {
+                if (isWord(keyWord(k))) {
+                    key = k;
                     goOn();
                     return true;
                 }
@@ -1141,24 +1143,24 @@ public final class RoofSnow {
         /** To the next word or sign; a word that lacks its blank fits nowhere. */
         private void goOn() {
             boolean behindWord = sort == LETTERS || sort == DIGITS;
-            int wordEnd = end;
-            start = end;
-            while (start < bytesLength && bytes[start] == BLANK) {
-                start++;
+            int at = end;
+            while (at < bytesLength && bytes[at] == BLANK) {
+                at++;
             }
-            end = start;
-            if (start >= bytesLength) {
+            boolean blankAhead = at > end;
+            start = at;
+            end = at;
+            if (at >= bytesLength) {
                 sort = END;
                 return;
             }
-            sort = sortOf(bytes[start]);
-            end++;
-            while (sort != A_SIGN && end < bytesLength && sortOf(bytes[end]) == sort) {
-                end++;
+            int found = sortOf(bytes[at]);
+            at++;
+            while (found != A_SIGN && at < bytesLength && sortOf(bytes[at]) == found) {
+                at++;
             }
-            if (sort != A_SIGN && behindWord && start == wordEnd) {
-                sort = GLUED;
-            }
+            end = at;
+            sort = found != A_SIGN && behindWord && !blankAhead ? GLUED : found;
         }
 
         private static int sortOf(int b) {
