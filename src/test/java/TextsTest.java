@@ -33,6 +33,7 @@ public final class TextsTest {
         s.reads("fine1", -104).reads("fine 1w", -106).reads("fine w1", -106).reads("fine 1 w", -107).reads("finew", -100);
         s.reads("fine 10000", -105).reads("fine 00001", -105).reads("fine 1+12345", -107).reads("fine ww", -105);
         s.reads("Fine 1", -100).reads("fine W", -105).reads("fines 1", -100).reads("fin e 1", -100).reads("xfine 1", -100);
+        s.reads("xine 1", -100).reads("finea 1", -100).reads("finez 1", -100).reads("fine9 1", -104).reads("fine 1a", -106);
         s.reads("fine\t1", -104).reads("fine 1\u00ff", -106).reads("\u0000fine 1", -100).reads("fine 1\u0000", -106);
         s.reads("1fine 1", -100).reads("fine fine 1", -105).reads("melt 1 melt", -107);
     }

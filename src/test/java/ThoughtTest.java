@@ -41,6 +41,10 @@ public final class ThoughtTest {
         t.say("roof 0 1 = 0", "sunset 0 = 18", "weather 0 0 -1 = 0", "weather 0 1 9 = 0", "run 1 = 0", "told 0 5 = 9",
             "best 0 1 0 = 0", "best 0 1 1 = 0", "set 0 1 2 = 1", "best 0 1 0 = 4", "best 0 1 1 = 4", "best 0 2 0 = 2",
             "best 0 2 1 = 4", "best 0 72 0 = 0");
+        // the highest heat may be the best
+        Script u = new Script("promise 17, most");
+        u.say("roof 0 9 = 0", "sunset 0 = 18", "weather 0 0 -1 = 0", "weather 0 1 9 = 0", "run 1 = 0", "told 0 5 = 81",
+            "best 0 1 0 = 9", "best 0 1 1 = 72");
     }
 
     private static void leastRoom() {
@@ -49,6 +53,16 @@ public final class ThoughtTest {
             "leastRoom 1 200 = 234", "told 1 3 = 100", "behind 1 200 0 = 100");
         s.say("leastRoom 2 1 = BAD", "leastRoom -1 1 = BAD", "leastRoom 0 -1 = BAD", "leastRoom 0 201 = BAD");
         s.say("run 24 = 0", "set 0 3 10 = 100", "told 0 4 = 10", "leastRoom 0 0 = 10", "leastRoom 0 1 = 20", "kilos 3 = 10");
+        // seven LEANING roofs feed the last one, which melts all: more than 99999 in 200 hours
+        Script t = new Script("promise 18, 99999");
+        for (int i = 0; i < 7; i++) {
+            t.say("roof 3 9 = " + i);
+        }
+        t.say("roof 2 8 = 7").reads("melt (z=8)*9999", 0).reads("owner 1", 1);
+        for (int h = 0; h < 24; h++) {
+            t.say("weather " + h + " 0 -1 = 0", "weather " + h + " 1 9 = 0");
+        }
+        t.say("leastRoom 7 2 = 1278", "leastRoom 7 100 = 63900", "leastRoom 7 200 = 99999");
     }
 
     private static void slide() {
@@ -91,6 +105,13 @@ public final class ThoughtTest {
             "mark 0 3 99999 = 1", "explained 0 0 = 3", "explained 0 1 = 199970");
         // a place counts hours from now on
         s.say("run 2 = 0", "sheet 2 0 2 = 2", "mark 2 0 20 = 1", "mark 2 1 48 = 1", "explained 2 0 = 3", "explained 2 1 = 0");
+        // one kilo at hour 0 tells sunsets 0 and 1 apart, one at hour 23 those of 23 and 24
+        Script t = new Script("promise 21, first and last");
+        t.say("roof 0 1 = 0", "weather 22 0 -1 = 0", "weather 22 1 1 = 0", "run 23 = 0", "weather 23 0 1 = 0", "told 0 5 = 1",
+            "kilos 0 = 10", "told 0 7 = 1", "sheet 0 0 2 = 2", "mark 0 1 6 = 1", "explained 0 0 = 24", "explained 0 1 = 0",
+            "mark 0 1 5 = 1", "explained 0 0 = 0", "explained 0 1 = 0");
+        t.say("weather 23 0 0 = 1", "run 1 = 0", "weather 0 0 1 = 0", "mark 0 1 6 = 1", "explained 0 0 = 1", "explained 0 1 = 0",
+            "mark 0 1 5 = 1", "explained 0 0 = 0", "explained 0 1 = 0", "sunset 0 = 18", "run 1 = 0", "told 0 4 = 1", "kilos 1 = 5");
     }
 
     private static void fine() {
