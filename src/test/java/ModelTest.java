@@ -1,4 +1,3 @@
-import java.lang.reflect.Method;
 import java.util.ArrayList;
 import java.util.Arrays;
 import java.util.List;
@@ -12,11 +11,10 @@ public final class ModelTest {
     private static final int CALLS = 350;
     private static final int[] ODD = {-1, 0, 1, 24, 25, 99, 100, 999, 1000, 9999, 10000, 32768, -99999, 99999, 100000,
         -100000, Integer.MIN_VALUE, Integer.MAX_VALUE, RoofSnow.NONE, RoofSnow.BAD};
-    private static final Map<String, Method> METHODS = new TreeMap<>();
     private static final Map<String, Integer> ANSWERED = new TreeMap<>();
 
     private final Random lot;
-    private final RoofSnow real = new RoofSnow();
+    private final Calls real = Calls.ofNewObject();
     private final Model model = new Model();
     private final StringBuilder story = new StringBuilder();
     private int calls = 0;
@@ -27,11 +25,6 @@ public final class ModelTest {
     }
 
     public static void main(String[] args) {
-        for (Method m : RoofSnow.class.getDeclaredMethods()) {
-            if (java.lang.reflect.Modifier.isPublic(m.getModifiers())) {
-                METHODS.put(m.getName(), m);
-            }
-        }
         int runs = args.length > 0 ? Integer.parseInt(args[0]) : 500;
         long first = args.length > 1 ? Long.parseLong(args[1]) : 1;
         for (int i = 0; i < runs; i++) {
@@ -39,7 +32,7 @@ public final class ModelTest {
             t.go(i % 4);
             Due.holds("run " + (first + i) + " answers as the model:\n" + t.story, t.same);
         }
-        for (String name : METHODS.keySet()) {
+        for (String name : Calls.METHODS.keySet()) {
             Due.holds(name + " was answered in earnest", ANSWERED.getOrDefault(name, 0) > 0);
         }
         Due.end();
@@ -51,7 +44,7 @@ public final class ModelTest {
             call("deal", 1 + lot.nextInt(8));
             call("sky");
         }
-        List<String> names = new ArrayList<>(METHODS.keySet());
+        List<String> names = new ArrayList<>(Calls.METHODS.keySet());
         while (calls < CALLS && same) {
             int d = lot.nextInt(40);
             if (d < 3) {
@@ -88,15 +81,7 @@ public final class ModelTest {
         }
         calls++;
         int want = model.answer(name, p);
-        int got;
-        try {
-            Object[] boxed = Arrays.stream(p).boxed().toArray();
-            got = (Integer) METHODS.get(name).invoke(real, boxed);
-        } catch (ReflectiveOperationException e) {
-            story.append(name).append(Arrays.toString(p)).append(" threw ").append(e.getCause()).append('\n');
-            same = false;
-            return;
-        }
+        int got = real.call(name, p);
         if (want > -1000000000) {
             ANSWERED.merge(name, 1, Integer::sum);
         }
@@ -216,12 +201,8 @@ public final class ModelTest {
     private void feedText() {
         call("trim", 0);
         String t = RandomText.made(lot);
-        for (int i = 0; i < t.length(); i += 12) {
-            int[] p = new int[3];
-            for (int j = 0; j < 12; j++) {
-                p[j / 4] = p[j / 4] << 8 | (i + j < t.length() ? t.charAt(i + j) : ' ');
-            }
-            call("feed", p[0], p[1], p[2]);
+        for (int[] p : Calls.fed(t)) {
+            call("feed", p);
         }
         call("trim", t.length());
         call("text");
