@@ -13,8 +13,8 @@ public final class EdgesTest {
     private static final int[] ROOF = {MIN, -1, 0, 1, 3, 4, 7, 8, MAX}, KIND = {MIN, -1, 0, 1, 2, 3, 4, 5, 6, MAX};
     private static final int[] SHEET = {-1, 0, 1, 2, 3, 4}, SLOT = {MIN, -1, 0, 1, 2, 3, 4, 5, MAX}, PLACE = {-1, 0, 1, 2, 3, 24};
     /** Calls that only ask: none of them changes anything, whatever it answers. */
-    private static final Set<String> ASKING = Set.of("told", "as", "kilos", "behind", "best", "leastRoom", "slide", "gains", "explained", "fine", "textTold", "why",
-        "reads", "ask", "item", "rest", "count");
+    private static final Set<String> ASKING = Set.of("told", "as", "kilos", "behind", "best", "leastRoom", "slide", "gains", "explained",
+        "fine", "textTold", "why", "reads", "ask", "item", "rest", "count");
     /** Two that use up the tape or the numbers that wait, even if they are refused, and one that is never refused. */
     private static final Set<String> CHANGING = Set.of("text", "check", "seed");
 
@@ -57,10 +57,12 @@ public final class EdgesTest {
     }
 
     private static EdgesTest busy() {
-        EdgesTest t = new EdgesTest("busy").then("weather", 0, 0, -1).then("weather", 0, 1, 9).then("run", 1).then("weather", 1, 0, 3).then("weather", 1, 1, 2).then("weather", 2, 0, -1)
-            .then("weather", 2, 1, 1).then("roof", 3, 2).then("roof", 2, 3).then("roof", 5, 4).then("sweep", 1, 20).then("run", 1).then("set", 0, 2, 4).then("use", 2, 3).then("sunset", 2);
+        EdgesTest t = new EdgesTest("busy").then("weather", 0, 0, -1).then("weather", 0, 1, 9).then("run", 1).then("weather", 1, 0, 3)
+            .then("weather", 1, 1, 2).then("weather", 2, 0, -1).then("weather", 2, 1, 1).then("roof", 3, 2).then("roof", 2, 3)
+            .then("roof", 5, 4).then("sweep", 1, 20).then("run", 1).then("set", 0, 2, 4).then("use", 2, 3).then("sunset", 2);
         t.text("melt w*2+s/10").text("owner h>1").then("keep").then("roof", 1, 3).text("fine w+s*2").then("run", 1).then("seed", -9);
-        t.then("sheet", 0, 0, 2).then("mark", 0, 0, 5).then("sheet", 1, 1, 3).then("mark", 1, 1, NONE).then("mark", 1, 2, -8).then("sheet", 3, 0, 24).then("mark", 3, 23, 30000);
+        t.then("sheet", 0, 0, 2).then("mark", 0, 0, 5).then("sheet", 1, 1, 3).then("mark", 1, 1, NONE).then("mark", 1, 2, -8)
+            .then("sheet", 3, 0, 24).then("mark", 3, 23, 30000);
         t.then("lay", 0, 1, 2).then("lay", 1, 2, 1).then("lay", 2, 3, -7).then("lay", 4, 2, 3).then("tell", 8).then("tell", 79);
         return t.tape("fine 7 + w");
     }
@@ -82,7 +84,8 @@ public final class EdgesTest {
         for (int i = 0; i < 49; i++) {
             t.then("run", 200);
         }
-        t.then("run", 197).then("weather", 13, 0, -3).then("weather", 13, 1, 9).then("weather", 14, 0, 4).then("weather", 14, 1, 5).then("weather", 15, 1, 7).then("roof", 1, 1).then("roof", 3, 1);
+        t.then("run", 197).then("weather", 13, 0, -3).then("weather", 13, 1, 9).then("weather", 14, 0, 4).then("weather", 14, 1, 5)
+            .then("weather", 15, 1, 7).then("roof", 1, 1).then("roof", 3, 1);
         return t.then("keep").then("run", 1).then("tell", 0).then("tell", 90).then("sheet", 2, 0, 3);
     }
 
@@ -98,7 +101,8 @@ public final class EdgesTest {
             case "deal": return of(v(MIN, -1, 0, 1, 2, 3, 4, 5, 7, 8, 9, MAX));
             case "seed": case "tell": return of(v(MIN, -1, 0, 1, 2, MAX, NONE));
             case "weather": return of(v(-1, 0, 1, 22, 23, 24), v(-1, 0, 1, 2), v(-21, -20, -19, -1, 0, 1, 8, 9, 10, 19, 20, 21));
-            case "sunset": case "fine": case "why": case "kilos": case "count": return of(v(MIN, -1, 0, 1, 2, 3, 4, 5, 6, 7, 8, 9, 10, 23, 24, 25, MAX));
+            case "sunset": case "fine": case "why": case "kilos": case "count":
+                return of(v(MIN, -1, 0, 1, 2, 3, 4, 5, 6, 7, 8, 9, 10, 23, 24, 25, MAX));
             case "run": return of(v(MIN, -1, 0, 1, 2, 3, 23, 24, 25, 199, 200, 201, MAX));
             case "behind": return of(ROOF, v(-1, 0, 1, 2, 24, 199, 200, 201), v(-1, 0, 1, 2, 3, 4));
             case "best": return of(ROOF, v(-1, 0, 1, 2, 71, 72, 73), v(-1, 0, 1, 2));
@@ -115,7 +119,8 @@ public final class EdgesTest {
     private static int[][] sheetEdges(String name) {
         switch (name) {
             case "sheet": return of(SHEET, v(-2, -1, 0, 1, 2), v(MIN, -1, 0, 1, 23, 24, 25, MAX));
-            case "mark": return of(SHEET, v(-1, 0, 1, 2, 3, 23, 24), v(MIN, -100000, -99999, -32769, -1, 0, 32767, 32768, 65536, 99999, 100000, MAX, NONE));
+            case "mark":
+                return of(SHEET, v(-1, 0, 1, 2, 3, 23, 24), v(MIN, -100000, -99999, -32769, -1, 0, 32767, 32768, 65536, 99999, 100000, MAX, NONE));
             case "pour": case "reads": return of(SHEET);
             case "copy": return of(SHEET, PLACE, SHEET, PLACE, v(-1, 0, 1, 2, 3, 24));
             case "lay": return of(SLOT, v(-1, 0, 1, 2, 3, 4), v(MIN, -1, 0, 1, 2, 3, 4, 7, 8));

@@ -86,8 +86,8 @@ final class SentencesOfRoofs {
             street.leaves("kilos " + what + " = 0");
         }
         Script sky = Document.term(1, "Of each hour of the day (0 .. 23): AIR -20 .. 20, FALL 0 .. 9 (0 at first).");
-        sky.outside("weather # 0 1", 0, 23).outside("weather # 1 1", 0, 23).outside("weather 0 0 #", -20, 20)
-            .outside("weather 0 1 #", 0, 9).outside("weather 23 0 #", -20, 20).outside("weather 23 1 #", 0, 9);
+        sky.outside("weather # 0 1", 0, 23).outside("weather # 1 1", 0, 23).outside("weather 0 0 #", -20, 20).outside("weather 0 1 #", 0, 9)
+            .outside("weather 23 0 #", -20, 20).outside("weather 23 1 #", 0, 9);
         for (int h = 0; h < 24; h++) {
             sky.say("weather " + h + " 0 " + (h - 20) + " = 0", "weather " + h + " 1 " + h % 10 + " = 0");
         }
@@ -138,7 +138,8 @@ final class SentencesOfRoofs {
         int[][] due = {{-1, 0, 0, 0}, {0, 0, 0, 0}, {1, 3, 3, 3}, {2, 5, 6, 6}, {3, 5, 6, 7}};
         was = 0;
         for (int[] d : due) {
-            plain.say("weather 1 0 " + d[0] + " = " + was, "told 0 7 = " + d[1], "told 1 7 = " + d[2], "told 2 7 = " + d[3], "told 3 7 = 0");
+            plain.say("weather 1 0 " + d[0] + " = " + was, "told 0 7 = " + d[1], "told 1 7 = " + d[2], "told 2 7 = " + d[3],
+                "told 3 7 = 0");
             was = d[0];
         }
         plain.say("weather 1 0 -9 = 3", "set 2 2 9 = 0", "told 2 7 = 0", "weather 1 0 -8 = -9", "told 2 7 = 3");
@@ -190,21 +191,23 @@ final class SentencesOfRoofs {
         Script plain = Document.term(1, "(without a TEXT: whether the hour of the day is SUNSET or more).");
         plain.say("roof 0 1 = 0", "told 0 9 = 0", "sunset 1 = 18", "told 0 9 = 0", "sunset 0 = 1", "told 0 9 = 1", "sunset 1 = 0",
             "run 1 = 0", "told 0 9 = 1", "run 1 = 0", "told 0 9 = 1", "sunset 3 = 1", "told 0 9 = 0", "run 21 = 0", "sunset 22 = 3",
-            "told 0 9 = 1", "sunset 23 = 22", "told 0 9 = 1", "sunset 24 = 23", "told 0 9 = 0", "sunset 23 = 24", "run 1 = 0", "count 1 = 24",
-            "told 0 9 = 0", "sunset 0 = 23", "told 0 9 = 1", "sunset 18 = 0", "run 17 = 0", "told 0 9 = 0", "run 1 = 0", "told 0 9 = 1");
+            "told 0 9 = 1", "sunset 23 = 22", "told 0 9 = 1", "sunset 24 = 23", "told 0 9 = 0", "sunset 23 = 24", "run 1 = 0",
+            "count 1 = 24", "told 0 9 = 0", "sunset 0 = 23", "told 0 9 = 1", "sunset 18 = 0", "run 17 = 0", "told 0 9 = 0", "run 1 = 0",
+            "told 0 9 = 1");
     }
 
     private static void makes() {
         Script fresh = Document.promise(1, "As told; no ROOFS.");
-        fresh.leaves("count 0 = 0", "count 1 = 0", "count 2 = 18", "count 3 = 0", "count 4 = 0", "count 5 = 0", "count 6 = 0", "count 7 = 0",
-            "count 8 = 1", "told 0 0 = BAD", "fine 0 = BAD", "slide = NONE", "gains 0 1 = NONE", "why 0 = NONE", "why 1 = NONE",
-            "why 2 = NONE", "reads 0 = NOTHING", "reads 3 = NOTHING", "rest 0 1 = NOTHING", "rest 4 1 = NOTHING", "back = NO",
-            "check 1 = NO", "trim 0 = 0", "trim 1 = BAD");
+        fresh.leaves("count 0 = 0", "count 1 = 0", "count 2 = 18", "count 3 = 0", "count 4 = 0", "count 5 = 0", "count 6 = 0",
+            "count 7 = 0", "count 8 = 1", "told 0 0 = BAD", "fine 0 = BAD", "slide = NONE", "gains 0 1 = NONE", "why 0 = NONE",
+            "why 1 = NONE", "why 2 = NONE", "reads 0 = NOTHING", "reads 3 = NOTHING", "rest 0 1 = NOTHING", "rest 4 1 = NOTHING",
+            "back = NO", "check 1 = NO", "trim 0 = 0", "trim 1 = BAD");
 
         Script roof = Document.promise(2, "One more ROOF: its number.").say("roof 4 9 = 0");
         roof.leaves("told 0 0 = 4", "told 0 1 = 9", "told 0 2 = 0", "told 0 3 = 100", "told 0 4 = 0", "told 0 5 = 0", "count 0 = 1");
-        roof.say("weather 0 0 1 = 0", "weather 0 1 1 = 0", "weather 1 0 -1 = 0", "weather 1 1 1 = 0", "keep = 1", "roof 1 2 = 1", "set 1 3 7 = 100",
-            "set 1 2 8 = 0", "run 1 = 0", "set 1 2 0 = 8", "run 1 = 0", "told 1 4 = 2", "told 1 5 = 2", "set 1 2 8 = 0", "back = 1", "roof 3 1 = 1");
+        roof.say("weather 0 0 1 = 0", "weather 0 1 1 = 0", "weather 1 0 -1 = 0", "weather 1 1 1 = 0", "keep = 1", "roof 1 2 = 1",
+            "set 1 3 7 = 100", "set 1 2 8 = 0", "run 1 = 0", "set 1 2 0 = 8", "run 1 = 0", "told 1 4 = 2", "told 1 5 = 2", "set 1 2 8 = 0",
+            "back = 1", "roof 3 1 = 1");
         // the number is free again behind the image, and all of the roof is as of a new one
         roof.leaves("told 1 0 = 3", "told 1 1 = 1", "told 1 2 = 0", "told 1 3 = 100", "told 1 4 = 0", "told 1 5 = 0");
 
@@ -218,8 +221,8 @@ final class SentencesOfRoofs {
     private static void tells() {
         Script s = Document.promise(3, "Of a ROOF: what 0 KIND, 1 SIZE, 2 HEAT, 3 ROOM, 4 WATER, 5 SNOW, 6 WARMTH, 7 MELTS, 8 BEARS, "
             + "9 whether it OWNS (1, 0), 10 WORTH.");
-        Skies.snowyStreet(s).say("weather 1 0 1 = 0", "weather 1 1 2 = 0", "weather 2 0 -3 = 0", "roof 3 4 = 0", "run 1 = 0", "set 0 2 5 = 0",
-            "set 0 3 50 = 100", "sweep 0 30 = 30", "sunset 3 = 18");
+        Skies.snowyStreet(s).say("weather 1 0 1 = 0", "weather 1 1 2 = 0", "weather 2 0 -3 = 0", "roof 3 4 = 0", "run 1 = 0",
+            "set 0 2 5 = 0", "set 0 3 50 = 100", "sweep 0 30 = 30", "sunset 3 = 18");
         s.leaves("told 0 0 = 3", "told 0 1 = 4", "told 0 2 = 5", "told 0 3 = 50", "told 0 4 = 8", "told 0 5 = 30", "told 0 6 = 2",
             "told 0 7 = 8", "told 0 8 = 40", "told 0 9 = 0", "told 0 10 = 14").say("sunset 2 = 3").leaves("told 0 9 = 1");
         Document.promise(3, "BAD.").outside("told # 0", 0, -1).say("roof 0 1 = 0").outside("told # 0", 0, 0).outside("told 0 #", 0, 10)
@@ -230,8 +233,8 @@ final class SentencesOfRoofs {
         as.leaves("as 0 5 = 1", "as 0 0 = 1", "as 0 3 = KIND", "as 0 1 = KIND");
         Document.promise(4, "BAD: roof, kind; KIND: it is not of that KIND, nor of one under it.").outside("as # 0", 0, -1)
             .say("roof 1 5 = 0", "roof 2 5 = 1", "roof 0 5 = 2").leaves("as 0 2 = KIND", "as 0 3 = KIND", "as 0 4 = KIND", "as 0 5 = KIND",
-            "as 1 1 = KIND", "as 1 4 = KIND", "as 2 1 = KIND", "as 2 2 = KIND", "as 2 5 = KIND", "as 0 1 = 5", "as 3 5 = BAD", "as 3 6 = BAD")
-            .outside("as 0 #", 0, 5).outside("as # 3", 0, 2);
+            "as 1 1 = KIND", "as 1 4 = KIND", "as 2 1 = KIND", "as 2 2 = KIND", "as 2 5 = KIND", "as 0 1 = 5", "as 3 5 = BAD",
+            "as 3 6 = BAD").outside("as 0 #", 0, 5).outside("as # 3", 0, 2);
     }
 
     private static void changes() {
@@ -240,21 +243,24 @@ final class SentencesOfRoofs {
             "sunset 0 = 18", "run 1 = 0");
         int was = 0;
         for (int kind : new int[] {5, 4, 3, 2, 1, 0}) {
-            turns.say("turns 0 " + kind + " = " + was, "told 0 0 = " + kind, "told 0 1 = 9", "told 0 2 = 2", "told 0 3 = 60", "told 0 4 = 45",
-                "told 0 5 = 44");
+            turns.say("turns 0 " + kind + " = " + was, "told 0 0 = " + kind, "told 0 1 = 9", "told 0 2 = 2", "told 0 3 = 60",
+                "told 0 4 = 45", "told 0 5 = 44");
             was = kind;
         }
         // from now on: what it bears is that of the new kind
         turns.say("set 0 1 4 = 9", "slide = NONE", "turns 0 1 = 0", "slide = 1", "turns 0 2 = 1", "slide = NONE");
         Document.promise(5, "BAD.").outside("turns # 0", 0, -1).say("roof 3 4 = 0").outside("turns # 0", 0, 0).outside("turns 0 #", 0, 5);
 
-        Script set = Document.promise(6, "SIZE, HEAT, ROOM (what 1 .. 3; WATER above a new ROOM is LOST) of a ROOF becomes v: what it was.");
+        Script set = Document.promise(6,
+            "SIZE, HEAT, ROOM (what 1 .. 3; WATER above a new ROOM is LOST) of a ROOF becomes v: what it was.");
         set.say("weather 0 0 1 = 0", "weather 0 1 5 = 0", "roof 0 9 = 0", "run 1 = 0", "told 0 4 = 45", "set 0 3 46 = 100", "told 0 4 = 45",
             "kilos 3 = 0", "set 0 3 45 = 46", "told 0 4 = 45", "kilos 3 = 0", "set 0 3 44 = 45", "told 0 4 = 44", "kilos 3 = 1",
             "set 0 3 999 = 44", "told 0 4 = 44", "kilos 3 = 1", "set 0 3 0 = 999", "told 0 4 = 0", "kilos 3 = 45", "kilos 6 = 95",
-            "set 0 1 1 = 9", "set 0 2 9 = 0", "told 0 1 = 1", "told 0 2 = 9", "told 0 3 = 0").leaves("set 0 1 1 = 1", "set 0 2 9 = 9", "set 0 3 0 = 0");
+            "set 0 1 1 = 9", "set 0 2 9 = 0", "told 0 1 = 1", "told 0 2 = 9", "told 0 3 = 0").leaves("set 0 1 1 = 1", "set 0 2 9 = 9",
+            "set 0 3 0 = 0");
         Document.promise(6, "BAD.").outside("set # 1 1", 0, -1).say("roof 0 5 = 0").outside("set # 2 1", 0, 0).outside("set 0 # 5", 1, 3)
-            .outside("set 0 1 #", 1, 9).outside("set 0 2 #", 0, 9).outside("set 0 3 #", 0, 999).leaves("set 0 1 999 = BAD", "set 0 2 999 = BAD");
+            .outside("set 0 1 #", 1, 9).outside("set 0 2 #", 0, 9).outside("set 0 3 #", 0, 999).leaves("set 0 1 999 = BAD",
+            "set 0 2 999 = BAD");
     }
 
     private static void sweeps() {
@@ -269,7 +275,8 @@ final class SentencesOfRoofs {
         for (int lies : new int[] {9997, 9998, 9999}) {
             int room = 9999 - lies;
             Script deep = Skies.deepStreet(Document.promise(7, words), 1).say("roof 2 1 = 0", "sweep 0 " + lies + " = " + lies,
-                "sweep 0 2 = " + Math.min(2, room), "told 0 5 = 9999", "kilos 4 = 9999", "kilos 0 = 8001").leaves("sweep 0 1 = 0", "sweep 0 9999 = 0");
+                "sweep 0 2 = " + Math.min(2, room), "told 0 5 = 9999", "kilos 4 = 9999", "kilos 0 = 8001")
+                .leaves("sweep 0 1 = 0", "sweep 0 9999 = 0");
             deep.outside("sweep 0 #", 1, 9999);
         }
         Skies.deepStreet(Document.promise(7, words), 1).say("roof 1 1 = 0", "sweep 0 9999 = 9999", "told 0 5 = 9999", "kilos 4 = 9999");
@@ -281,8 +288,8 @@ final class SentencesOfRoofs {
         String words = "n (1 .. 999) kilos of a ROOF's WATER, as much as there is, are USED: how much.";
         for (int n : new int[] {1, 80, 81, 82, 998, 999}) {
             int used = Math.min(81, n);
-            Document.promise(8, words).say("weather 0 0 1 = 0", "weather 0 1 9 = 0", "roof 0 9 = 0", "roof 0 9 = 1", "run 1 = 0", "use 0 " + n + " = " + used,
-                "told 0 4 = " + (81 - used), "told 1 4 = 81", "kilos 5 = " + used, "kilos 6 = 252");
+            Document.promise(8, words).say("weather 0 0 1 = 0", "weather 0 1 9 = 0", "roof 0 9 = 0", "roof 0 9 = 1", "run 1 = 0",
+                "use 0 " + n + " = " + used, "told 0 4 = " + (81 - used), "told 1 4 = 81", "kilos 5 = " + used, "kilos 6 = 252");
         }
         Script empty = Document.promise(8, words).say("roof 0 1 = 0").leaves("use 0 1 = 0", "use 0 999 = 0");
         empty.say("set 0 3 999 = 100", "set 0 1 9 = 1");
@@ -300,7 +307,8 @@ final class SentencesOfRoofs {
         for (int n : new int[] {1, 2, 7, 8}) {
             Script s = Document.promise(9, words).say("deal " + n + " = " + n, "count 0 = " + n, "count 8 = " + DRAWN[n - 1][2]);
             for (int i = 0; i < n; i++) {
-                s.say("told " + i + " 0 = " + DRAWN[i][0], "told " + i + " 1 = " + DRAWN[i][1], "told " + i + " 2 = 0", "told " + i + " 3 = 100");
+                s.say("told " + i + " 0 = " + DRAWN[i][0], "told " + i + " 1 = " + DRAWN[i][1], "told " + i + " 2 = 0",
+                    "told " + i + " 3 = 100");
             }
         }
         for (int had : new int[] {5, 6, 7, 8}) {
@@ -315,7 +323,8 @@ final class SentencesOfRoofs {
         full.leaves("deal 1 = 0", "deal 8 = 0");
         Document.promise(9, "BAD.").outside("deal #", 1, 8).say("deal 8 = 8").outside("deal #", 1, 8);
 
-        Document.promise(10, "z becomes v: what it was.").say("seed MIN = 1", "count 8 = MIN", "seed MAX = MIN", "count 8 = MAX", "seed 0 = MAX",
-            "count 8 = 0", "seed -1 = 0", "count 8 = -1", "seed BAD = -1", "seed 1 = BAD", "count 8 = 1").leaves("seed 1 = 1");
+        Document.promise(10, "z becomes v: what it was.").say("seed MIN = 1", "count 8 = MIN", "seed MAX = MIN", "count 8 = MAX",
+            "seed 0 = MAX", "count 8 = 0", "seed -1 = 0", "count 8 = -1", "seed BAD = -1", "seed 1 = BAD", "count 8 = 1")
+            .leaves("seed 1 = 1");
     }
 }
