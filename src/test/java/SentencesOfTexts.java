@@ -258,6 +258,11 @@ final class SentencesOfTexts {
             .reads("melt 5", 1).leaves("why 0 = 1").say("keep = 1").reads("fine 6", 2).say("back = 1").reads("fine 7", 2)
             .leaves("fine 0 = 7");
         s.say("back = 1").leaves("fine 0 = 5", "count 5 = 2");
+        // a short one takes the number of a long one behind the image, and nothing of the long one is left
+        Document.promise(25, "THE TAPE is a TEXT: its number.").say("roof 0 1 = 0", "keep = 1").reads("fine !!!1", 0).leaves("fine 0 = 0")
+            .say("back = 1").reads("fine 5", 0).leaves("fine 0 = 5", "textTold 0 1 = 1").say("back = 1").reads("fine !5", 0)
+            .leaves("fine 0 = 0").say("back = 1").reads("fine 1+2*3-4", 0).leaves("fine 0 = 3").say("back = 1").reads("fine 9", 0)
+            .leaves("fine 0 = 9");
         Script faults = Document.promise(25, "-100 less the place of its FAULT; FULL.").reads("", -100).reads("f", -100).reads(" f", -101)
             .reads("fine", -104).reads(" ".repeat(95) + "x", -195).reads(" ".repeat(95) + "w", -195).reads(" ".repeat(96), -196);
         faults.leaves("count 5 = 0", "why 2 = NONE");

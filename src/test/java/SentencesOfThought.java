@@ -160,6 +160,12 @@ final class SentencesOfThought {
         n.leaves("gains 0 1 = 0", "gains 0 23 = 0", "gains 0 24 = 1", "gains 0 47 = 1", "gains 0 48 = 0", "gains 0 71 = 0",
             "gains 0 72 = 0", "gains 1 72 = 0").say("sweep 1 1 = 1", "sweep 0 1 = 1", "set 0 3 2 = 100")
             .leaves("gains 0 24 = 1", "gains 0 71 = 1", "gains 0 72 = 1");
+        // among eight, the last one too
+        Script eight = Skies.snowyStreet(Document.promise(20, "GAINS by v (0 .. 24) for n (1 .. 72).")).say("weather 1 0 1 = 0");
+        for (int i = 0; i < 8; i++) {
+            eight.say("roof 0 1 = " + i);
+        }
+        eight.leaves("gains 0 1 = 0").say("sweep 7 1 = 1").leaves("gains 0 1 = 7").say("sweep 6 1 = 1").leaves("gains 0 1 = 6");
         Document.promise(20, "BAD; NONE: there are no ROOFS.").leaves("gains 0 1 = NONE", "gains 24 72 = NONE").outside("gains # 1", 0, 24)
             .outside("gains 0 #", 1, 72).say("roof 0 1 = 0").leaves("gains 0 1 = 0", "gains 24 72 = 0").outside("gains # 1", 0, 24)
             .outside("gains 0 #", 1, 72);
