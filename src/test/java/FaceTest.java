@@ -7,6 +7,8 @@ import java.nio.file.Files;
 import java.nio.file.Path;
 import java.util.Set;
 import java.util.TreeSet;
+import java.util.regex.Matcher;
+import java.util.regex.Pattern;
 
 /** The class has the document's face, read from the document itself, and nothing more that can be seen. */
 public final class FaceTest {
@@ -31,7 +33,24 @@ public final class FaceTest {
         Due.holds("40 methods in the document", methods.size() == 40);
         Due.holds("8 constants in the document", constants.size() == 8);
         compare(methods, constants);
+        order(doc);
         Due.end();
+    }
+
+    /** What the interface says ahead of calls stands in the class, and behind it those calls, in the document's order. */
+    private static void order(String doc) throws IOException {
+        StringBuilder want = new StringBuilder();
+        Matcher ahead = Pattern.compile("Ahead of the calls (.*) the interface says: (----[^.]*)\\.").matcher(doc);
+        while (ahead.find()) {
+            want.append(ahead.group(2)).append('\n').append(ahead.group(1).replace("`", "").replace(", ", "\n")).append('\n');
+        }
+        StringBuilder have = new StringBuilder();
+        String code = Files.readString(Path.of("src/main/java/RoofSnow.java"));
+        Matcher row = Pattern.compile("(?m)^    (?:// (---- [^:\n]*): promises|public int ([a-zA-Z]+)\\()").matcher(code);
+        while (row.find()) {
+            have.append(row.group(1) == null ? row.group(2) : row.group(1)).append('\n');
+        }
+        Due.holds("the calls stand as in the document:\n" + want + "not\n" + have, want.length() > 0 && want.toString().equals(have.toString()));
     }
 
     private static void compare(Set<String> methods, Set<String> constants) {

@@ -60,7 +60,14 @@ public final class LanguageTest {
             }
             Due.holds("some sixty lines: " + lines[i].strip(), end - i <= 60);
             Due.holds("seven parameters: " + lines[i].strip(), m.group(2).split(",").length <= 7);
+            String body = String.join("\n", List.of(lines).subList(i, Math.min(end, lines.length)));
+            boolean makes = Pattern.compile("\\bnew\\b").matcher(body).find();
+            Due.holds("only a constructor makes objects, not " + lines[i].strip(), !makes || isConstructor(lines[i]));
         }
         Due.holds("the methods were found", seen > 60);
+    }
+
+    private static boolean isConstructor(String head) {
+        return Pattern.matches(" +(?:public )?[A-Z][A-Za-z]*\\(.*", head);
     }
 }
